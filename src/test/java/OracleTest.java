@@ -34,6 +34,9 @@ public final class OracleTest {
         }
         for (int i = 0; i < calls && wrong == 0; i++) {
             one(most);
+            if (i % 25 == 0) {
+                askAll();
+            }
         }
     }
 
@@ -136,6 +139,28 @@ public final class OracleTest {
             case 35, 36, 37 -> same("flower(" + a + "," + i + ")", () -> x.flower(a, i), () -> y.flower(a, i));
             case 38 -> same("status(" + what + ")", () -> x.status(what), () -> y.status(what));
             default -> same("fault()", x::fault, y::fault);
+        }
+    }
+
+    private void askAll() {
+        for (int what = 0; what < 8; what++) {
+            int w = what;
+            same("told(" + w + ")", () -> x.told(w), () -> y.told(w));
+            same("sets(" + w + ")", () -> x.sets(w), () -> y.sets(w));
+            same("barrier(" + w + ")", () -> x.barrier(w), () -> y.barrier(w));
+            same("heavy(" + w + ")", () -> x.heavy(w), () -> y.heavy(w));
+        }
+        same("ways()", x::ways, y::ways);
+        for (int a = 0; a < y.nodes(); a++) {
+            for (int b = -1; b < y.nodes() + 1; b++) {
+                int n = a;
+                int i = b;
+                same("node(" + n + "," + i + ")", () -> x.node(n, i), () -> y.node(n, i));
+                same("path(" + n + "," + i + ")", () -> x.path(n, i), () -> y.path(n, i));
+                same("flower(" + n + "," + i + ")", () -> x.flower(n, i), () -> y.flower(n, i));
+                same("line(" + n + "," + i + ",3)", () -> x.line(n, i, 3), () -> y.line(n, i, 3));
+                same("line(" + n + "," + i + ",4)", () -> x.line(n, i, 4), () -> y.line(n, i, 4));
+            }
         }
     }
 

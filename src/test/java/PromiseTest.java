@@ -304,6 +304,7 @@ public final class PromiseTest {
         OddPairs z = of("nodes 6;line 0 1;line 1 2;line 0 3;line 3 4;line 2 5;line 4 5;pair 1 2;pair 3 4;");
         due("of two the least", z.better(0), 3);
         due("by 1", z.node(0, 1), 1);
+        due("the least end", of("nodes 4;line 3 2;line 3 1;").path(3, 1), 1);
         due("not by 3", z.node(3, 1), 4);
         OddPairs w = of("nodes 6;line 0 1;line 1 2;ring 2 3 4;line 3 5;pair 1 2;pair 3 4;");
         due("round an odd ring", w.better(0), 3);
@@ -463,6 +464,7 @@ public final class PromiseTest {
         OddPairs z = of("nodes 5;line 0 1;line 1 2;ring 2 3 4;pair 1 2;pair 3 4;");
         due("EVEN behind an odd ring", z.sets(3), 29);
         due("ODD", z.sets(4), 2);
+        due("BESIDE is not MISSED", of("nodes 5;ring 0 1 2;line 2 3;line 3 4;").sets(1), 8);
         // A walk that comes back to its own nodes is no path.
         OddPairs w = of("nodes 4;line 0 1;line 1 2;line 2 3;pair 1 2;");
         due("free ones are EVEN", w.sets(3), 15);
@@ -497,6 +499,7 @@ public final class PromiseTest {
         due("follows a cut", y.barrier(1), 5);
         OddPairs z = of("nodes 3;");
         due("no line: the empty one", z.barrier(1), 0);
+        due("of 1 and 8 the least", of("nodes 6;line 0 1;line 0 2;line 0 3;line 3 4;line 3 5;").barrier(0), 1);
     }
 
     private static void promise19() {
