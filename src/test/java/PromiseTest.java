@@ -1,16 +1,5 @@
-import java.nio.charset.StandardCharsets;
-import java.util.Arrays;
-import java.util.NoSuchElementException;
-import java.util.function.LongSupplier;
-
 /** Each promise by examples worked out by hand: ordinary inputs, edges, wrong inputs. */
-public final class PromiseTest {
-    private static final Class<?> NO_SUCH = NoSuchElementException.class;
-    private static final Class<?> ARGUMENT = IllegalArgumentException.class;
-    private static final Class<?> STATE = IllegalStateException.class;
-
-    private static int wrong = 0;
-
+public final class PromiseTest extends Checks {
     public static void main(String[] args) {
         promise1();
         promise2();
@@ -42,76 +31,6 @@ public final class PromiseTest {
         if (wrong > 0) {
             System.exit(1);
         }
-    }
-
-    private static void due(String call, long got, long want) {
-        if (got != want) {
-            wrong++;
-            System.out.println(call + " answered " + got + ", due is " + want);
-        }
-    }
-
-    private static void thrown(OddPairs x, String call, LongSupplier run, Class<?> want) {
-        long before = print(x);
-        int[] counts = {x.status(0), x.status(1), x.status(2)};
-        String got = "nothing";
-        try {
-            run.getAsLong();
-        } catch (RuntimeException e) {
-            got = e.getClass().getSimpleName();
-        }
-        if (!got.equals(want.getSimpleName())) {
-            wrong++;
-            System.out.println(call + " threw " + got + ", due is " + want.getSimpleName());
-        }
-        due(call + " then the state", print(x), before);
-        counts[want == NO_SUCH ? 0 : want == ARGUMENT ? 1 : 2]++;
-        for (int i = 0; i < 3; i++) {
-            due(call + " then status(" + i + ")", x.status(i), counts[i]);
-        }
-    }
-
-    /** All that must stay when a call throws. */
-    private static long print(OddPairs x) {
-        return x.print() * 31 * 31 * 31 + x.told(0) * 31 * 31 + x.told(6) * 31 + x.told(7) + x.fault();
-    }
-
-    private static int tell(OddPairs x, String text) {
-        feedText(x, text);
-        return x.text(text.length());
-    }
-
-    private static int feedText(OddPairs x, String text) {
-        byte[] bytes = text.getBytes(StandardCharsets.ISO_8859_1);
-        int answer = x.told(6);
-        for (int at = 0; at < bytes.length; at += 20) {
-            byte[] row = Arrays.copyOfRange(bytes, at, at + 20);
-            int[] n = new int[5];
-            for (int k = 0; k < 20; k++) {
-                n[k / 4] = n[k / 4] << 8 | row[k] & 255;
-            }
-            answer = x.feed(n[0], n[1], n[2], n[3], n[4]);
-        }
-        return answer;
-    }
-
-    private static OddPairs of(String text) {
-        OddPairs x = new OddPairs();
-        if (tell(x, text) < 0) {
-            wrong++;
-            System.out.println("'" + text + "' is refused");
-        }
-        return x;
-    }
-
-    private static void faultOf(String text, int kind, int place) {
-        OddPairs x = of("nodes 3; line 0 1 7; line 1 2; pair 0 1;");
-        long before = x.print();
-        due("text '" + text + "'", tell(x, text), kind - 10);
-        due("fault of '" + text + "'", x.fault(), place);
-        due("told(6) behind '" + text + "'", x.told(6), 0);
-        due("print behind '" + text + "'", x.print(), before);
-        due("acts behind '" + text + "'", x.told(7), 1);
     }
 
     private static void promise1() {
