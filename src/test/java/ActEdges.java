@@ -20,6 +20,7 @@ final class ActEdges extends Edges {
         holds("Promise 2", "Twenty bytes come on the TAPE, of each number the highest first: how many there are;", ActEdges::highestFirst);
         holds("Promise 2", "NONE, doing nothing, if there would be more than 500.", ActEdges::tapeIsFull);
         holds("Promise 3", "The first n bytes of the TAPE (empty then) tell all anew: how many LINES;", ActEdges::textTellsAnew);
+        holds("Promise 3", "The first n bytes of the TAPE", ActEdges::notTheNextByte);
         holds("Promise 3", "or the FAULT less 10 (all but the TAPE stays).", ActEdges::faultLessTen);
         holds("Promise 3", "IllegalArgumentException: n is not 0 to the TAPE's bytes (it stays).", ActEdges::textOfTooMany);
         holds("Promise 4", "The place of the FAULT of the latest text() that threw nothing;", ActEdges::latestFault);
@@ -73,6 +74,11 @@ final class ActEdges extends Edges {
         due("line(0, 1, 1)", x.line(0, 1, 1), 1);
         due("fault()", x.fault(), -1);
         due("print()", x.print(), (-1 * 31 - 1) * 31 + 1);
+        due("odd(1)", x.odd(1), 1);
+        due("barrier(1) asked first", new OddPairs().barrier(1), 1);
+        due("ways() asked first", new OddPairs().ways(), 1);
+        due("sets(2) asked first", new OddPairs().sets(2), 3);
+        due("finish() called first", new OddPairs().finish(), 1);
         due("undo()", x.undo(), -1);
         for (int what = 0; what < 3; what++) {
             due("status(" + what + ")", x.status(what), 0);
@@ -123,6 +129,26 @@ final class ActEdges extends Edges {
         due("66 LINES", x.text(13), 66);
         feedText(x, "nodes 1;");
         due("no LINE", x.text(8), 0);
+    }
+
+    private static void notTheNextByte() {
+        // By n: the fault's place, were the text cut off there.
+        int[] places = {0, 0, 0, 0, 0, 5, 6, 7, -1, 8, 8, 8, 12, 13, 14, 15, 16, 17, 18, 19, -1, -1, 21, 21, 24, -1};
+        String text = "nodes 2;line 0 1 12; all;";
+        for (int n = 0; n < places.length; n++) {
+            OddPairs x = new OddPairs();
+            feedText(x, text);
+            due("text(" + n + ")", x.text(n), places[n] >= 0 ? -9 : n < 20 ? 0 : 1);
+            due("fault() of " + n, x.fault(), places[n]);
+        }
+        OddPairs y = new OddPairs();
+        feedText(y, "nodes 12;");
+        due("a number that goes on behind", y.text(7), -9);
+        due("its end is the text's", y.fault(), 7);
+        OddPairs z = new OddPairs();
+        feedText(z, "nodes 2;line 0 1 9999;");
+        due("a weight that goes on behind", z.text(20), -9);
+        due("is not too great", z.fault(), 20);
     }
 
     private static void faultLessTen() {

@@ -293,6 +293,12 @@ final class QuestionEdges extends Edges {
         due("OUT", x.sets(5), 12);
         due("all EVEN", of("nodes 12;").sets(3), 4095);
         due("all OUT", of(SIX_OF_999).sets(5), 4095);
+        x.cut(0, 11);
+        due("EVEN follows cut()", x.sets(3), 4095 - 2048 - 1024 - 12);
+        due("ODD follows cut()", x.sets(4), 0);
+        due("OUT follows cut()", x.sets(5), 2048 + 1024 + 12);
+        x.undo();
+        due("ODD follows undo()", x.sets(4), 2048);
     }
 
     private static void setsNoSuch() {
@@ -385,9 +391,22 @@ final class QuestionEdges extends Edges {
         due("the least", x.heavy(1), 11);
         x.cut(0, 3);
         due("a heavier one with fewer LINES", x.heavy(0), 11);
+        ofThree(7, 6, 5);
+        ofThree(5, 7, 6);
+        ofThree(6, 5, 7);
+        ofThree(5, 6, 7);
         due("a lighter one with fewer LINES", of("nodes 4;line 0 1 5;line 2 3 6;line 1 2 0;").heavy(1), 11);
         x.join(0, 1, 0);
         due("follows join()", x.heavy(1), 6);
+    }
+
+    private static void ofThree(int a, int b, int c) {
+        String text = "nodes 3;line 0 1 " + a + ";line 0 2 " + b + ";line 1 2 " + c + ";";
+        OddPairs x = of("nodes 3;line 0 1 900;line 0 2 900;line 1 2 900;");
+        x.heavy(0);
+        tell(x, text);
+        due("the most of " + text, x.heavy(0), 7);
+        due("the least of " + text, x.heavy(1), 5);
     }
 
     private static void heavyNoSuch() {

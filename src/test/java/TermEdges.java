@@ -186,6 +186,7 @@ final class TermEdges extends Edges {
         mates(of("nodes 4;line 0 1;line 0 2;line 1 3;"), 4, 2, 3, 0, 1);
         mates(of("nodes 5;line 1 4;line 1 3;line 2 4;line 2 3;"), 4, -1, 3, 4, 1, 2);
         mates(of("nodes 4;all;pair 0 3;pair 1 2;"), 4, 1, 0, 3, 2);
+        mates(of("nodes 5;line 3 1;line 1 2;line 2 4;"), 4, -1, 3, 4, 1, 2);
     }
 
     private static void missedNoneToAll() {
@@ -201,6 +202,7 @@ final class TermEdges extends Edges {
         due("MISSED ones beside MISSED ones", of("nodes 3;all;").sets(1), 0);
         due("the middle of a star", of(STAR_OF_TWELVE).sets(1), 1);
         due("none MISSED", of("nodes 12;all;").sets(1), 0);
+        due("two", of("nodes 7;line 0 1;line 0 2;line 0 3;line 3 4;line 4 5;line 4 6;").sets(1), 17);
         due("behind one that is BESIDE", of("nodes 5;line 0 1;line 0 2;line 0 3;line 3 4;").sets(1), 1);
     }
 

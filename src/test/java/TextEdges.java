@@ -203,6 +203,11 @@ final class TextEdges extends Edges {
         fault(1, "|nodess 2;");
         fault(1, "|node 2;");
         fault(1, "|nodesall 2;");
+        fault(1, "|modes 2;");
+        fault(1, "nodes 2;|mine 0 1;");
+        fault(1, "nodes 2;|sing 0 1;");
+        fault(1, "nodes 2;|ill;");
+        fault(1, "nodes 2;|hair 0 1;");
         fault(1, "|Nodes 2;");
         fault(1, "|nodeS 2;");
         fault(1, "nodes 2;|allz;");
@@ -351,6 +356,9 @@ final class TextEdges extends Edges {
         fault(3, "nodes 4;all;pair 0 1;pair 1 0;|");
         fault(3, "nodes 4;all;pair 2 3;pair 0 1;pair 3 1;|");
         good("nodes 4;all;pair 2 3;pair 0 1;", 6);
+        OddPairs x = new OddPairs();
+        due("a FAULT", tell(x, "nodes 4;all;pair 0 1;pair 1 2;"), -7);
+        due("ahead in the same TEXT alone", tell(x, "nodes 4;all;pair 1 2;"), 6);
     }
 
     private static void atFirst() {
