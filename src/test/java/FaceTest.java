@@ -10,11 +10,29 @@ import java.util.TreeSet;
 /** The face of the document and those rules of LANGUAGE.md that can be seen from outside. */
 public final class FaceTest {
     private static final String[] FACE = {
-        "int feed(int,int,int,int,int)", "int text(int)", "int fault()", "int join(int,int,int)",
-        "int cut(int,int)", "int pair(int,int)", "int part(int)", "int better(int)", "int finish()",
-        "int shrink(int)", "int undo()", "int told(int)", "int line(int,int,int)", "int node(int,int)",
-        "int sets(int)", "int odd(int)", "int barrier(int)", "int ways()", "int heavy(int)",
-        "int path(int,int)", "int flower(int,int)", "long print()", "int status(int)"};
+        "int feed(int,int,int,int,int)",
+        "int text(int) throws IllegalArgumentException",
+        "int fault()",
+        "int join(int,int,int) throws NoSuchElementException IllegalArgumentException",
+        "int cut(int,int) throws NoSuchElementException IllegalArgumentException IllegalStateException",
+        "int pair(int,int) throws NoSuchElementException IllegalArgumentException IllegalStateException",
+        "int part(int) throws NoSuchElementException IllegalStateException",
+        "int better(int) throws NoSuchElementException IllegalStateException",
+        "int finish()",
+        "int shrink(int) throws NoSuchElementException IllegalStateException",
+        "int undo()",
+        "int told(int) throws IllegalArgumentException",
+        "int line(int,int,int) throws NoSuchElementException IllegalArgumentException",
+        "int node(int,int) throws NoSuchElementException IllegalArgumentException",
+        "int sets(int) throws IllegalArgumentException",
+        "int odd(int) throws IllegalArgumentException",
+        "int barrier(int) throws IllegalArgumentException",
+        "int ways()",
+        "int heavy(int) throws IllegalArgumentException",
+        "int path(int,int) throws NoSuchElementException",
+        "int flower(int,int) throws NoSuchElementException",
+        "long print()",
+        "int status(int)"};
 
     private static final String[] BANNED = {
         "catch", "finally", "->", "::", "synchronized", "assert", "Exact", "static {", "try", "toString",
@@ -50,11 +68,7 @@ public final class FaceTest {
             if (!Modifier.isPrivate(m.getModifiers())) {
                 due(Modifier.isPublic(m.getModifiers()), m + " is public or private");
                 names.add(m.getName());
-                StringBuilder s = new StringBuilder(m.getReturnType() + " " + m.getName() + "(");
-                for (Class<?> p : m.getParameterTypes()) {
-                    s.append(p).append(',');
-                }
-                got.add(s.toString().replaceAll(",$", "") + ")");
+                got.add(signature(m));
             }
         }
         due(got.equals(want), "the face: " + got);
@@ -68,6 +82,18 @@ public final class FaceTest {
         }
     }
 
+    private static String signature(Method m) {
+        StringBuilder s = new StringBuilder(m.getReturnType() + " " + m.getName() + "(");
+        for (Class<?> p : m.getParameterTypes()) {
+            s.append(p).append(',');
+        }
+        s = new StringBuilder(s.toString().replaceAll(",$", "") + ")");
+        for (Class<?> e : m.getExceptionTypes()) {
+            s.append(s.indexOf("throws") < 0 ? " throws " : " ").append(e.getSimpleName());
+        }
+        return s.toString();
+    }
+
     private static void checkMembers() throws Exception {
         due(Modifier.isFinal(OddPairs.class.getModifiers()), "the class is final");
         Constructor<?>[] all = OddPairs.class.getDeclaredConstructors();
@@ -75,6 +101,7 @@ public final class FaceTest {
             "one public constructor");
         Field none = OddPairs.class.getDeclaredField("NONE");
         due(none.getModifiers() == (Modifier.PUBLIC | Modifier.STATIC | Modifier.FINAL), "NONE is a public constant");
+        due(none.getType() == int.class && none.getInt(null) == -1, "NONE is the int -1");
         for (Field f : OddPairs.class.getDeclaredFields()) {
             due(f.equals(none) || Modifier.isPrivate(f.getModifiers()), f + " is private");
         }
