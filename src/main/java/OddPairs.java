@@ -717,16 +717,23 @@ public final class OddPairs {
         }
     }
 
-    /** Of all subsets of the nodes: the greatest matchings inside. */
+    /**
+     * Of all subsets of the nodes: the greatest matchings inside. What is known of a subset is held
+     * in one number, so that an object stays small: how many lines, how many such matchings, the
+     * most and the least weight, sixteen bits each (62,370 are the most matchings that twelve nodes
+     * have of one size).
+     */
     private static final class Greatest {
+        static final int SIZE_AT = 48;
+        static final int COUNT_AT = 32;
+        static final int HEAVIEST_AT = 16;
+        static final long SIXTEEN_BITS = 0xffffL;
+
         boolean known = false;
         final int[] first = new int[MOST_NODES];
         private int all = 0;
         private int nodes = 0;
-        private final int[] most = new int[SUBSETS];
-        private final int[] counts = new int[SUBSETS];
-        private final int[] heaviest = new int[SUBSETS];
-        private final int[] lightest = new int[SUBSETS];
+        private final long[] inside = new long[SUBSETS];
 
         void learn(Net net) {
             if (known) {
@@ -735,7 +742,7 @@ public final class OddPairs {
             known = true;
             nodes = net.nodes;
             all = net.all();
-            counts[0] = 1;
+            inside[0] = pack(0, 1, 0, 0);
             for (int a = 0; a < nodes; a++) {
                 // All subsets whose highest node is a; what they ask for is lower.
                 for (int set = 1 << a; set < 1 << (a + 1); set++) {
@@ -746,58 +753,72 @@ public final class OddPairs {
 
         private void learnSet(Net net, int a, int set) {
             int rest = set & ~(1 << a);
-            most[set] = most[rest];
-            counts[set] = counts[rest];
-            heaviest[set] = heaviest[rest];
-            lightest[set] = lightest[rest];
             int mates = net.near[a] & rest;
+            long best = inside[rest];
             for (int b = 0; b < a; b++) {
                 if (hasBit(mates, b)) {
-                    weighIn(set, rest & ~(1 << b), net.weightOf(a, b));
+                    int weight = net.weightOf(a, b);
+                    best = both(best, inside[rest & ~(1 << b)] + pack(1, 0, weight, weight));
                 }
             }
+            inside[set] = best;
         }
 
-        private void weighIn(int set, int rest, int weight) {
-            int size = most[rest] + 1;
-            if (size > most[set]) {
-                most[set] = size;
-                counts[set] = counts[rest];
-                heaviest[set] = heaviest[rest] + weight;
-                lightest[set] = lightest[rest] + weight;
-            } else if (size == most[set]) {
-                counts[set] += counts[rest];
-                heaviest[set] = Math.max(heaviest[set], heaviest[rest] + weight);
-                lightest[set] = Math.min(lightest[set], lightest[rest] + weight);
+        /** Two kinds of matchings that have none in common, told as one: the smaller ones fall away. */
+        private static long both(long x, long y) {
+            if (sizeIn(x) != sizeIn(y)) {
+                return sizeIn(x) > sizeIn(y) ? x : y;
             }
+            return pack(sizeIn(x), countIn(x) + countIn(y),
+                Math.max(heaviestIn(x), heaviestIn(y)), Math.min(lightestIn(x), lightestIn(y)));
+        }
+
+        private static long pack(int size, int count, int heaviest, int lightest) {
+            return (long) size << SIZE_AT | (long) count << COUNT_AT | (long) heaviest << HEAVIEST_AT | lightest;
+        }
+
+        private static int sizeIn(long known) {
+            return (int) (known >> SIZE_AT & SIXTEEN_BITS);
+        }
+
+        private static int countIn(long known) {
+            return (int) (known >> COUNT_AT & SIXTEEN_BITS);
+        }
+
+        private static int heaviestIn(long known) {
+            return (int) (known >> HEAVIEST_AT & SIXTEEN_BITS);
+        }
+
+        private static int lightestIn(long known) {
+            return (int) (known & SIXTEEN_BITS);
         }
 
         int size() {
-            return most[all];
+            return sizeIn(inside[all]);
         }
 
         int missing() {
-            return nodes - 2 * most[all];
+            return nodes - 2 * size();
         }
 
         int count() {
-            return counts[all];
+            return countIn(inside[all]);
         }
 
         int mostWeight() {
-            return heaviest[all];
+            return heaviestIn(inside[all]);
         }
 
         int leastWeight() {
-            return lightest[all];
+            return lightestIn(inside[all]);
         }
 
         boolean someHave(Net net, int a, int b) {
-            return net.isLine(a, b) && most[without(a, b)] + 1 == most[all];
+            return net.isLine(a, b) && sizeIn(inside[without(a, b)]) + 1 == size();
         }
 
         boolean allHave(Net net, int a, int b) {
-            return someHave(net, a, b) && counts[without(a, b)] == counts[all];
+            return someHave(net, a, b) && countIn(inside[without(a, b)]) == count();
         }
 
         private int without(int a, int b) {
@@ -807,7 +828,7 @@ public final class OddPairs {
         int bitsOfSet(Net net, int set) {
             int missed = 0;
             for (int a = 0; a < nodes; a++) {
-                if (most[all & ~(1 << a)] == most[all]) {
+                if (sizeIn(inside[all & ~(1 << a)]) == size()) {
                     missed |= 1 << a;
                 }
             }
@@ -845,7 +866,7 @@ public final class OddPairs {
         private int firstMate(Net net, int a, int rest) {
             for (int b = a + 1; b < nodes; b++) {
                 if (hasBit(rest, b) && net.isLine(a, b)
-                        && most[rest & ~(1 << a | 1 << b)] + 1 == most[rest]) {
+                        && sizeIn(inside[rest & ~(1 << a | 1 << b)]) + 1 == sizeIn(inside[rest])) {
                     return b;
                 }
             }
@@ -853,12 +874,17 @@ public final class OddPairs {
         }
     }
 
-    /** Of all subsets of the nodes: how many odd parts they fall into. */
+    /**
+     * Of all subsets of the nodes: the nodes around, and how many odd parts it falls into. Both are
+     * held in one number, so that an object stays small.
+     */
     private static final class Parts {
+        static final int AROUND_AT = 4;
+        static final int FOUR_BITS = 15;
+
         boolean known = false;
         private int all = 0;
-        private final int[] around = new int[SUBSETS];
-        private final int[] oddParts = new int[SUBSETS];
+        private final int[] inside = new int[SUBSETS];
 
         void learn(Net net) {
             if (known) {
@@ -868,17 +894,31 @@ public final class OddPairs {
             all = net.all();
             for (int a = 0; a < net.nodes; a++) {
                 for (int set = 1 << a; set < 1 << (a + 1); set++) {
-                    around[set] = around[set & ~(1 << a)] | net.near[a];
-                    int part = partOf(a, set);
-                    oddParts[set] = oddParts[set & ~part] + (Integer.bitCount(part) & 1);
+                    learnSet(net, a, set);
                 }
             }
+        }
+
+        private void learnSet(Net net, int a, int set) {
+            int around = aroundOf(set & ~(1 << a)) | net.near[a];
+            // The part may be the whole set, so what is around it must stand by then.
+            inside[set] = around << AROUND_AT;
+            int part = partOf(a, set);
+            inside[set] |= oddIn(set & ~part) + (Integer.bitCount(part) & 1);
+        }
+
+        private int aroundOf(int set) {
+            return inside[set] >> AROUND_AT;
+        }
+
+        private int oddIn(int set) {
+            return inside[set] & FOUR_BITS;
         }
 
         private int partOf(int a, int set) {
             int part = 1 << a;
             for (int i = 0; i < MOST_NODES; i++) {
-                int wider = part | around[part] & set;
+                int wider = part | aroundOf(part) & set;
                 if (wider == part) {
                     break;
                 }
@@ -888,7 +928,7 @@ public final class OddPairs {
         }
 
         int oddWithout(int set) {
-            return oddParts[all & ~set];
+            return oddIn(all & ~set);
         }
 
         private boolean isBarrier(int set, int missing) {
@@ -928,6 +968,7 @@ public final class OddPairs {
      */
     private static final class Walks {
         // Five pairs at most beside the first node: 5 * 2^5 ways to end, and the first node alone.
+        static final int MOST_PAIRS = 5;
         static final int MOST_WALKS = 161;
 
         final int[] row = new int[MOST_NODES];
@@ -938,17 +979,32 @@ public final class OddPairs {
         private final int[] over = new int[MOST_WALKS];
         private final int[] last = new int[MOST_WALKS];
         private final int[] ahead = new int[MOST_WALKS];
-        private final int[] lastsSeen = new int[SUBSETS];
+        private final int[] pairBits = new int[MOST_NODES];
+        private final int[] pairsOver = new int[MOST_WALKS];
+        private final int[] lastsSeen = new int[1 << MOST_PAIRS];
 
         /** Shortest first, of one length by their rows: the first that serves is the one asked for. */
         private void spread(Net net, int start) {
-            for (int i = 0; i < count; i++) {
-                lastsSeen[over[i]] = 0;
-            }
+            numberPairs(net, start);
+            Arrays.fill(lastsSeen, 0);
             count = 0;
-            add(1 << start, start, NONE);
+            add(1 << start, 0, start, NONE);
             for (int i = 0; i < count && i < MOST_WALKS; i++) {
                 goOn(net, i);
+            }
+        }
+
+        /** A bit for each pair that a walk may go over: that of the first node is none of them. */
+        private void numberPairs(Net net, int start) {
+            Arrays.fill(pairBits, 0);
+            int bit = 1;
+            for (int a = 0; a < net.nodes; a++) {
+                int mate = net.mates[a];
+                if (mate > a && a != start && mate != start) {
+                    pairBits[a] = bit;
+                    pairBits[mate] = bit;
+                    bit <<= 1;
+                }
             }
         }
 
@@ -958,18 +1014,19 @@ public final class OddPairs {
                 if (hasBit(open, a) && !net.isFree(a)) {
                     int mate = net.mates[a];
                     if (!hasBit(over[walk], mate)) {
-                        add(over[walk] | 1 << a | 1 << mate, mate, walk);
+                        add(over[walk] | 1 << a | 1 << mate, pairsOver[walk] | pairBits[a], mate, walk);
                     }
                 }
             }
         }
 
-        private void add(int nodesOver, int end, int from) {
-            if (count >= MOST_WALKS || hasBit(lastsSeen[nodesOver], end)) {
+        private void add(int nodesOver, int pairs, int end, int from) {
+            if (count >= MOST_WALKS || pairs >= lastsSeen.length || hasBit(lastsSeen[pairs], end)) {
                 return;
             }
-            lastsSeen[nodesOver] |= 1 << end;
+            lastsSeen[pairs] |= 1 << end;
             over[count] = nodesOver;
+            pairsOver[count] = pairs;
             last[count] = end;
             ahead[count] = from;
             count++;
