@@ -34,7 +34,7 @@ public final class OddPairs {
     private int pastCount = 0;
 
     private final Reader reader = new Reader();
-    private final Greatest greatest = new Greatest();
+    private final Greatest greatest = new Greatest(net);
     private final Parts parts = new Parts();
     private final Walks walks = new Walks();
     private final int[] refused = new int[3];
@@ -122,7 +122,8 @@ public final class OddPairs {
     }
 
     public int finish() {
-        greatest.fillFirst(net);
+        learn();
+        greatest.fillFirst();
         int before = net.countPairs();
         remember();
         System.arraycopy(greatest.first, 0, net.mates, 0, MOST_NODES);
@@ -186,10 +187,10 @@ public final class OddPairs {
                 return asNumber(net.mates[a] == b);
             case 3:
                 learn();
-                return asNumber(greatest.someHave(net, a, b));
+                return asNumber(greatest.someHave(a, b));
             default:
                 learn();
-                return asNumber(greatest.allHave(net, a, b));
+                return asNumber(greatest.allHave(a, b));
         }
     }
 
@@ -206,7 +207,8 @@ public final class OddPairs {
             case 3:
                 return setOf(a);
             default:
-                greatest.fillFirst(net);
+                learn();
+                greatest.fillFirst();
                 return greatest.first[a];
         }
     }
@@ -215,7 +217,7 @@ public final class OddPairs {
         needArgument(what >= 0 && what <= 5);
         if (what <= REST) {
             learn();
-            return greatest.bitsOfSet(net, what);
+            return greatest.bitsOfSet(what);
         }
         walks.label(net);
         return walks.bitsOfLabel(net, what - 3);
@@ -361,7 +363,7 @@ public final class OddPairs {
     }
 
     private void learn() {
-        greatest.learn(net);
+        greatest.learn();
     }
 
     private int labelOf(int a) {
@@ -377,7 +379,7 @@ public final class OddPairs {
     private int setOf(int a) {
         learn();
         for (int set = MISSED; set < REST; set++) {
-            if (hasBit(greatest.bitsOfSet(net, set), a)) {
+            if (hasBit(greatest.bitsOfSet(set), a)) {
                 return set;
             }
         }
@@ -718,10 +720,10 @@ public final class OddPairs {
     }
 
     /**
-     * Of all subsets of the nodes: the greatest matchings inside. What is known of a subset is held
-     * in one number, so that an object stays small: how many lines, how many such matchings, the
-     * most and the least weight, sixteen bits each (62,370 are the most matchings that twelve nodes
-     * have of one size).
+     * Of subsets of the nodes: the greatest matchings inside. What is known of a subset is held in
+     * one number, so that an object stays small: how many lines, how many such matchings, the most
+     * and the least weight, sixteen bits each (62,370 are the most matchings that twelve nodes have
+     * of one size).
      */
     private static final class Greatest {
         static final int SIZE_AT = 48;
@@ -731,37 +733,48 @@ public final class OddPairs {
 
         boolean known = false;
         final int[] first = new int[MOST_NODES];
-        private int all = 0;
-        private int nodes = 0;
+        private final Net net;
+        // 0 is a subset that was not asked for: each has a matching, if only the one without lines.
         private final long[] inside = new long[SUBSETS];
 
-        void learn(Net net) {
-            if (known) {
-                return;
-            }
-            known = true;
-            nodes = net.nodes;
-            all = net.all();
-            inside[0] = pack(0, 1, 0, 0);
-            for (int a = 0; a < nodes; a++) {
-                // All subsets whose highest node is a; what they ask for is lower.
-                for (int set = 1 << a; set < 1 << (a + 1); set++) {
-                    learnSet(net, a, set);
-                }
+        Greatest(Net told) {
+            net = told;
+        }
+
+        void learn() {
+            if (!known) {
+                known = true;
+                Arrays.fill(inside, 0);
             }
         }
 
-        private void learnSet(Net net, int a, int set) {
-            int rest = set & ~(1 << a);
-            int mates = net.near[a] & rest;
-            long best = inside[rest];
-            for (int b = 0; b < a; b++) {
+        private long greatestIn(int set) {
+            return greatestBelow(net.nodes, set);
+        }
+
+        /** Of a set all of whose nodes are below a number. */
+        private long greatestBelow(int count, int set) {
+            if (count <= 0 || set <= 0 || set >= SUBSETS) {
+                return pack(0, 1, 0, 0);
+            }
+            if (inside[set] == 0) {
+                inside[set] = workOut(count - 1, set);
+            }
+            return inside[set];
+        }
+
+        /** The highest node is in no line, or in one to a lower node. */
+        private long workOut(int highest, int set) {
+            int rest = set & ~(1 << highest);
+            long best = greatestBelow(highest, rest);
+            int mates = hasBit(set, highest) ? net.near[highest] & rest : 0;
+            for (int b = 0; b < highest; b++) {
                 if (hasBit(mates, b)) {
-                    int weight = net.weightOf(a, b);
-                    best = both(best, inside[rest & ~(1 << b)] + pack(1, 0, weight, weight));
+                    int weight = net.weightOf(highest, b);
+                    best = both(best, greatestBelow(highest, rest & ~(1 << b)) + pack(1, 0, weight, weight));
                 }
             }
-            inside[set] = best;
+            return best;
         }
 
         /** Two kinds of matchings that have none in common, told as one: the smaller ones fall away. */
@@ -777,63 +790,63 @@ public final class OddPairs {
             return (long) size << SIZE_AT | (long) count << COUNT_AT | (long) heaviest << HEAVIEST_AT | lightest;
         }
 
-        private static int sizeIn(long known) {
-            return (int) (known >> SIZE_AT & SIXTEEN_BITS);
+        private static int sizeIn(long packed) {
+            return (int) (packed >> SIZE_AT & SIXTEEN_BITS);
         }
 
-        private static int countIn(long known) {
-            return (int) (known >> COUNT_AT & SIXTEEN_BITS);
+        private static int countIn(long packed) {
+            return (int) (packed >> COUNT_AT & SIXTEEN_BITS);
         }
 
-        private static int heaviestIn(long known) {
-            return (int) (known >> HEAVIEST_AT & SIXTEEN_BITS);
+        private static int heaviestIn(long packed) {
+            return (int) (packed >> HEAVIEST_AT & SIXTEEN_BITS);
         }
 
-        private static int lightestIn(long known) {
-            return (int) (known & SIXTEEN_BITS);
+        private static int lightestIn(long packed) {
+            return (int) (packed & SIXTEEN_BITS);
         }
 
         int size() {
-            return sizeIn(inside[all]);
+            return sizeIn(greatestIn(net.all()));
         }
 
         int missing() {
-            return nodes - 2 * size();
+            return net.nodes - 2 * size();
         }
 
         int count() {
-            return countIn(inside[all]);
+            return countIn(greatestIn(net.all()));
         }
 
         int mostWeight() {
-            return heaviestIn(inside[all]);
+            return heaviestIn(greatestIn(net.all()));
         }
 
         int leastWeight() {
-            return lightestIn(inside[all]);
+            return lightestIn(greatestIn(net.all()));
         }
 
-        boolean someHave(Net net, int a, int b) {
-            return net.isLine(a, b) && sizeIn(inside[without(a, b)]) + 1 == size();
+        boolean someHave(int a, int b) {
+            return net.isLine(a, b) && sizeIn(greatestIn(without(a, b))) + 1 == size();
         }
 
-        boolean allHave(Net net, int a, int b) {
-            return someHave(net, a, b) && countIn(inside[without(a, b)]) == count();
+        boolean allHave(int a, int b) {
+            return someHave(a, b) && countIn(greatestIn(without(a, b))) == count();
         }
 
         private int without(int a, int b) {
-            return all & ~(1 << a | 1 << b);
+            return net.all() & ~(1 << a | 1 << b);
         }
 
-        int bitsOfSet(Net net, int set) {
+        int bitsOfSet(int set) {
             int missed = 0;
-            for (int a = 0; a < nodes; a++) {
-                if (sizeIn(inside[all & ~(1 << a)]) == size()) {
+            for (int a = 0; a < net.nodes; a++) {
+                if (sizeIn(greatestIn(net.all() & ~(1 << a))) == size()) {
                     missed |= 1 << a;
                 }
             }
             int beside = 0;
-            for (int a = 0; a < nodes; a++) {
+            for (int a = 0; a < net.nodes; a++) {
                 if (!hasBit(missed, a) && (net.near[a] & missed) != 0) {
                     beside |= 1 << a;
                 }
@@ -841,19 +854,18 @@ public final class OddPairs {
             if (set == MISSED) {
                 return missed;
             }
-            return set == BESIDE ? beside : all & ~missed & ~beside;
+            return set == BESIDE ? beside : net.all() & ~missed & ~beside;
         }
 
         /** Node by node the least mate that still leaves the most pairs. */
-        void fillFirst(Net net) {
-            learn(net);
+        void fillFirst() {
             Arrays.fill(first, NONE);
-            int rest = all;
-            for (int a = 0; a < nodes; a++) {
+            int rest = net.all();
+            for (int a = 0; a < net.nodes; a++) {
                 if (!hasBit(rest, a)) {
                     continue;
                 }
-                int b = firstMate(net, a, rest);
+                int b = firstMate(a, rest);
                 rest &= ~(1 << a);
                 if (b != NONE) {
                     first[a] = b;
@@ -863,10 +875,10 @@ public final class OddPairs {
             }
         }
 
-        private int firstMate(Net net, int a, int rest) {
-            for (int b = a + 1; b < nodes; b++) {
+        private int firstMate(int a, int rest) {
+            for (int b = a + 1; b < net.nodes; b++) {
                 if (hasBit(rest, b) && net.isLine(a, b)
-                        && sizeIn(inside[rest & ~(1 << a | 1 << b)]) + 1 == sizeIn(inside[rest])) {
+                        && sizeIn(greatestIn(rest & ~(1 << a | 1 << b))) + 1 == sizeIn(greatestIn(rest))) {
                     return b;
                 }
             }
@@ -996,7 +1008,6 @@ public final class OddPairs {
 
         /** A bit for each pair that a walk may go over: that of the first node is none of them. */
         private void numberPairs(Net net, int start) {
-            Arrays.fill(pairBits, 0);
             int bit = 1;
             for (int a = 0; a < net.nodes; a++) {
                 int mate = net.mates[a];

@@ -21,6 +21,9 @@ public final class OracleTest {
         for (int run = 1; run <= 1500 && wrong == 0; run++) {
             new OracleTest(run).go();
         }
+        for (int run = 1501; run <= 6500 && wrong == 0; run++) {
+            new OracleTest(run).goLongWays();
+        }
         if (wrong > 0) {
             System.exit(1);
         }
@@ -38,6 +41,28 @@ public final class OracleTest {
                 askAll();
             }
         }
+    }
+
+    /** Few lines and nearly all nodes paired: there a path or a ring must go a long way round. */
+    private void goLongWays() {
+        tell(pairedText(5 + draw.nextInt(8)));
+        for (int a = 0; a < y.nodes() && wrong == 0; a++) {
+            int n = a;
+            same("node(" + n + ",2)", () -> x.node(n, 2), () -> y.node(n, 2));
+            for (int i = -1; i < y.nodes(); i++) {
+                askPlace(n, i);
+            }
+        }
+        int a = drawNode();
+        same("better(" + a + ")", () -> x.better(a), () -> y.better(a));
+        int b = drawNode();
+        same("shrink(" + b + ")", () -> x.shrink(b), () -> y.shrink(b));
+        same("print()", x::print, y::print);
+    }
+
+    private void askPlace(int a, int i) {
+        same("path(" + a + "," + i + ")", () -> x.path(a, i), () -> y.path(a, i));
+        same("flower(" + a + "," + i + ")", () -> x.flower(a, i), () -> y.flower(a, i));
     }
 
     private static Object answer(LongSupplier call) {
@@ -156,8 +181,7 @@ public final class OracleTest {
                 int n = a;
                 int i = b;
                 same("node(" + n + "," + i + ")", () -> x.node(n, i), () -> y.node(n, i));
-                same("path(" + n + "," + i + ")", () -> x.path(n, i), () -> y.path(n, i));
-                same("flower(" + n + "," + i + ")", () -> x.flower(n, i), () -> y.flower(n, i));
+                askPlace(n, i);
                 same("line(" + n + "," + i + ",3)", () -> x.line(n, i, 3), () -> y.line(n, i, 3));
                 same("line(" + n + "," + i + ",4)", () -> x.line(n, i, 4), () -> y.line(n, i, 4));
             }
@@ -225,13 +249,33 @@ public final class OracleTest {
         return "line" + number(a) + number(b) + weight;
     }
 
-    private String ring(int n) {
+    private int[] order(int n) {
         int[] order = new int[n];
         for (int i = 0; i < n; i++) {
             int j = draw.nextInt(i + 1);
             order[i] = order[j];
             order[j] = i;
         }
+        return order;
+    }
+
+    /** One or two nodes are free, but for the odd one that may be left. */
+    private String pairedText(int n) {
+        int[] order = order(n);
+        StringBuilder s = new StringBuilder("nodes " + n + ";");
+        for (int i = 1 + draw.nextInt(2); i + 1 < n; i += 2) {
+            String two = " " + order[i] + " " + order[i + 1] + ";";
+            s.append("line").append(two).append("pair").append(two);
+        }
+        for (int lines = n / 2 + draw.nextInt(n + 3); lines > 0; lines--) {
+            int a = draw.nextInt(n);
+            s.append("line ").append(a).append(' ').append((a + 1 + draw.nextInt(n - 1)) % n).append(';');
+        }
+        return s.toString();
+    }
+
+    private String ring(int n) {
+        int[] order = order(n);
         int count = draw.nextInt(20) == 0 ? n + 1 : Math.min(n, 2 + draw.nextInt(n));
         StringBuilder s = new StringBuilder("ring");
         for (int i = 0; i < count; i++) {

@@ -43,6 +43,7 @@ final class TermEdges extends Edges {
     private static void paths() {
         holds("Terms", "A PATH begins with a FREE NODE,", TermEdges::noFreeNoPath);
         holds("Terms", "goes by LINES over unlike NODES,", TermEdges::overUnlikeNodes);
+        holds("Terms", "goes by LINES over unlike NODES,", TermEdges::theOtherWayToANode);
         holds("Terms", "by turns by one that is no PAIR, by one that is (the first one is none).", TermEdges::byTurns);
         holds("Terms", "LABELS: EVEN (0) is a NODE to which a PATH of an even number of LINES leads (0, too),", TermEdges::evenByNoLine);
         holds("Terms", "ODD (1) another one to which a PATH leads,", TermEdges::oddIsNotEven);
@@ -54,6 +55,7 @@ final class TermEdges extends Edges {
     private static void flowers() {
         holds("Terms", "A FLOWER about a NODE: an odd number (3 or more) of NODES", TermEdges::threeToElevenNodes);
         holds("Terms", "in a ring of LINES, it among them,", TermEdges::ringOfLines);
+        holds("Terms", "in a ring of LINES, it among them,", TermEdges::theLongWayIntoARing);
         holds("Terms", "so that of all others each is PAIRED with one beside it in the ring", TermEdges::pairedWithOneBeside);
         holds("Terms", "(it with nobody in the ring).", TermEdges::itWithNobody);
         holds("Terms", "To SHRINK one: all of it but that NODE go;", TermEdges::allButThatGo);
@@ -261,6 +263,21 @@ final class TermEdges extends Edges {
         due("OUT", x.sets(5), 0);
     }
 
+    private static void theOtherWayToANode() {
+        // 0 1 2 5 6 is as short as 0 3 4 5 6 and less, but only the latter can go on by 2 and 1.
+        OddPairs x = of("nodes 8;line 0 1;line 1 2;line 2 5;line 5 6;line 0 3;line 3 4;line 4 5;line 6 2;line 1 7;"
+            + "pair 1 2;pair 3 4;pair 5 6;");
+        due("path(0, NONE)", x.path(0, -1), 7);
+        int[] want = {0, 3, 4, 5, 6, 2, 1, 7};
+        for (int i = 0; i < want.length; i++) {
+            due("path(0, " + i + ")", x.path(0, i), want[i]);
+        }
+        due("all are EVEN", x.sets(3), 255);
+        due("1 by that PATH alone", x.node(1, 2), 0);
+        due("better(0)", x.better(0), 4);
+        mates(x, 1, 3, 7, 6, 0, 5, 4, 2, 1);
+    }
+
     private static void byTurns() {
         OddPairs x = of("nodes 5;line 0 1;line 1 2;line 2 3;line 3 4;pair 1 2;");
         due("three LINES from 0", x.path(0, -1), 3);
@@ -337,6 +354,15 @@ final class TermEdges extends Edges {
         x.undo();
         x.cut(2, 3);
         due("open elsewhere", x.flower(0, -1), -1);
+    }
+
+    private static void theLongWayIntoARing() {
+        // 6 is reached by 0 8 7 5 first, but the lesser row comes to it by 4 and 5.
+        OddPairs x = of("nodes 9;ring 0 1 2 3 4 5 6 7 8;line 5 7;pair 1 2;pair 3 4;pair 5 6;pair 7 8;");
+        due("flower(0, NONE)", x.flower(0, -1), 9);
+        for (int i = 0; i < 9; i++) {
+            due("flower(0, " + i + ")", x.flower(0, i), i);
+        }
     }
 
     private static void pairedWithOneBeside() {
